@@ -38,13 +38,13 @@ public final class DeskRings {
     private final Told told = new Told();
     private final Told[] images = new Told[IMAGES];
     private final boolean[] imageMade = new boolean[IMAGES];
-    private final Reader reader = new Reader(told.tape);
+    private final Reader reader = new Reader();
     private final Lift lift = new Lift();
-    private final Floor floor = new Floor(reader.office);
+    private final Floor floor = new Floor();
     private final Chances chances = new Chances();
     private final Waiting waiting = new Waiting();
     private final Suspects suspects = new Suspects();
-    private final Plans plans = new Plans(floor);
+    private final Plans plans = new Plans();
 
     public DeskRings() {
         for (int k = 0; k < IMAGES; k++) {
@@ -79,7 +79,7 @@ public final class DeskRings {
         if (slot == NONE) {
             return NO_SUCH;
         }
-        reader.readText(sort, told.length);
+        reader.readText(sort, told.tape, told.length);
         told.length = 0;
         told.fault = reader.fault;
         told.faultPlace = reader.faultPlace;
@@ -933,7 +933,7 @@ public final class DeskRings {
         final Log log = new Log();
         int fault;
         int faultPlace = NONE;
-        private final byte[] tape;
+        private byte[] tape = new byte[0];
         private final int[] line = new int[4];
         private int length;
         private int token;
@@ -941,12 +941,9 @@ public final class DeskRings {
         private int next;
         private int value;
 
-        Reader(byte[] tape) {
-            this.tape = tape;
-        }
-
-        void readText(int sort, int bytes) {
-            length = Math.min(bytes, tape.length);
+        void readText(int sort, byte[] from, int bytes) {
+            tape = from;
+            length = Math.min(bytes, from.length);
             next = 0;
             fault = 0;
             faultPlace = NONE;
@@ -1244,7 +1241,7 @@ public final class DeskRings {
         int answered;
         int got;
         int paid;
-        private Office office;
+        private Office office = new Office();
         private int there;
         private int gone;
         private int took;
@@ -1254,10 +1251,6 @@ public final class DeskRings {
         private final int[] slips = new int[MOST_DESKS];
         private final int[] slipsRead = new int[MOST_DESKS];
         private final Lift lift = new Lift();
-
-        Floor(Office first) {
-            office = first;
-        }
 
         void begin(Office o) {
             office = o;
@@ -1576,7 +1569,8 @@ public final class DeskRings {
         private void reduce() {
             long a = over;
             long b = under;
-            while (b > 0) {
+            // Every second step halves what is left, so that 200 steps are enough for any two longs.
+            for (int step = 0; step < 200 && b > 0; step++) {
                 long left = a % b;
                 a = b;
                 b = left;
@@ -1820,15 +1814,11 @@ public final class DeskRings {
         int awaySet;
         /** By calls, by turns of calls, or by days: whom or which the plan takes. */
         final int[] row = new int[MOST_DAYS_ON_DUTY];
-        private final Floor floor;
+        private final Floor floor = new Floor();
         private final Lift lift = new Lift();
         private final int[] trial = new int[MOST_ORDERED];
         private final int[] toGive = new int[(MOST_CALLS + 1) * MASKS];
         private final int[] dutyCost = new int[(MOST_DAYS_ON_DUTY + 1) * MOST_DESKS];
-
-        Plans(Floor floor) {
-            this.floor = floor;
-        }
 
         int fewestThere(Office o) {
             int best = NONE;
