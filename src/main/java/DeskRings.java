@@ -409,7 +409,7 @@ public final class DeskRings {
             return NONE;
         }
         int desk = o.loudestDesk();
-        return many ? Integer.bitCount(o.hearers(desk)) : desk;
+        return many ? Integer.bitCount(o.hearers[desk]) : desk;
     }
 
     public int count(int sort) {
@@ -448,6 +448,9 @@ public final class DeskRings {
         final int[] callDesk = new int[MOST_CALLS];
         final int[] worth = new int[MOST_CALLS];
         final int[] patience = new int[MOST_CALLS];
+        /** Who hear each desk (bits). */
+        final int[] hearers = new int[MOST_DESKS];
+        private final int[] gaps = new int[MOST_DESKS * MOST_DESKS];
 
         Office() {
             clear();
@@ -475,6 +478,22 @@ public final class DeskRings {
             System.arraycopy(other.callDesk, 0, callDesk, 0, MOST_CALLS);
             System.arraycopy(other.worth, 0, worth, 0, MOST_CALLS);
             System.arraycopy(other.patience, 0, patience, 0, MOST_CALLS);
+            System.arraycopy(other.hearers, 0, hearers, 0, MOST_DESKS);
+            System.arraycopy(other.gaps, 0, gaps, 0, MOST_DESKS * MOST_DESKS);
+        }
+
+        /** Once all is told: how far off all are from each other, and who hears whom. */
+        void measure() {
+            for (int desk = 0; desk < desks; desk++) {
+                hearers[desk] = 0;
+                for (int one = 0; one < desks; one++) {
+                    int gap = Math.abs(place[one] - place[desk]);
+                    gaps[desk * MOST_DESKS + one] = gap;
+                    if (one != desk && gap <= ear) {
+                        hearers[desk] |= 1 << one;
+                    }
+                }
+            }
         }
 
         void addDesk(int ofKind, int[] line) {
@@ -579,21 +598,22 @@ public final class DeskRings {
         }
 
         int gap(int one, int desk) {
-            return Math.abs(place[one] - place[desk]);
+            return gaps[desk * MOST_DESKS + one];
         }
 
         boolean hears(int one, int desk) {
-            return one != desk && gap(one, desk) <= ear;
+            return (hearers[desk] >> one & 1) != 0;
         }
 
-        int hearers(int desk) {
-            int bits = 0;
+        /** How far off the nearest of a set is; beyond all places if it is empty. */
+        int nearestGap(int desk, int set) {
+            int nearest = LAST_PLACE + 1;
             for (int one = 0; one < desks; one++) {
-                if (hears(one, desk)) {
-                    bits |= 1 << one;
+                if ((set >> one & 1) != 0) {
+                    nearest = Math.min(nearest, gap(one, desk));
                 }
             }
-            return bits;
+            return nearest;
         }
 
         int faded(int ofWorth, int ring) {
@@ -640,7 +660,7 @@ public final class DeskRings {
             int grown = set;
             for (int one = 0; one < desks; one++) {
                 if ((set >> one & 1) != 0) {
-                    grown |= hearers(one);
+                    grown |= hearers[one];
                 }
             }
             return grown;
@@ -699,23 +719,13 @@ public final class DeskRings {
         int leastEar() {
             int least = 0;
             for (int desk = 0; desk < desks; desk++) {
-                int nearest = nearestOther(desk);
+                int nearest = nearestGap(desk, othersThan(desk));
                 if (nearest > LAST_PLACE) {
                     return NONE;
                 }
                 least = Math.max(least, nearest);
             }
             return least;
-        }
-
-        private int nearestOther(int desk) {
-            int nearest = LAST_PLACE + 1;
-            for (int one = 0; one < desks; one++) {
-                if (one != desk) {
-                    nearest = Math.min(nearest, gap(one, desk));
-                }
-            }
-            return nearest;
         }
 
         int passesBetween(int from, int to) {
@@ -732,7 +742,7 @@ public final class DeskRings {
         int loudestDesk() {
             int loudest = 0;
             for (int desk = 1; desk < desks; desk++) {
-                if (Integer.bitCount(hearers(desk)) > Integer.bitCount(hearers(loudest))) {
+                if (Integer.bitCount(hearers[desk]) > Integer.bitCount(hearers[loudest])) {
                     loudest = desk;
                 }
             }
@@ -961,8 +971,11 @@ public final class DeskRings {
                     return;
                 }
             }
-            if (sort == OFFICES && !office.callsHaveDesks()) {
-                mark(NO_DESK, length);
+            if (sort == OFFICES) {
+                office.measure();
+                if (!office.callsHaveDesks()) {
+                    mark(NO_DESK, length);
+                }
             }
         }
 
@@ -1167,9 +1180,12 @@ public final class DeskRings {
                 offer(o, desk, desk, 1);
                 return;
             }
+            int ears = o.hearers[desk] & there;
+            int nearest = o.nearestGap(desk, ears);
             for (int one = 0; one < o.desks; one++) {
-                if ((there >> one & 1) != 0 && o.hears(one, desk)) {
-                    offer(o, one, desk, ringOf(o, one, desk, there, helped[one]));
+                if ((ears >> one & 1) != 0) {
+                    boolean isNearest = o.gap(one, desk) == nearest;
+                    offer(o, one, desk, ringOf(o, one, helped[one], isNearest));
                 }
             }
         }
@@ -1211,28 +1227,21 @@ public final class DeskRings {
             }
         }
 
-        private static int ringOf(Office o, int one, int desk, int there, int helped) {
+        /** At which ring one who hears it would lift; 0: at none. */
+        private static int ringOf(Office o, int one, int helped, boolean isNearest) {
+            int rings = o.rings[one];
             switch (o.kind[one]) {
                 case PLAIN:
-                    return o.rings[one];
+                    return rings;
                 case SOFT:
-                    return Math.max(1, o.rings[one] - helped);
+                    return rings - helped > 1 ? rings - helped : 1;
                 case FAIR:
-                    return o.rings[one] + helped;
+                    return rings + helped;
                 case NEAR:
-                    return isNearest(o, one, desk, there) ? o.rings[one] : 0;
+                    return isNearest ? rings : 0;
                 default:
                     return 0;
             }
-        }
-
-        private static boolean isNearest(Office o, int one, int desk, int there) {
-            for (int other = 0; other < o.desks; other++) {
-                if ((there >> other & 1) != 0 && o.hears(other, desk) && o.gap(other, desk) < o.gap(one, desk)) {
-                    return false;
-                }
-            }
-            return true;
         }
     }
 
@@ -1284,19 +1293,12 @@ public final class DeskRings {
             begin(o);
             seed = first;
             for (int i = 0; i < times; i++) {
-                drawDeed();
-            }
-        }
-
-        private void drawDeed() {
-            int pick = drawBelow(8);
-            if (pick < 4) {
-                if (office.calls > 0) {
-                    act(RING, drawBelow(office.calls));
+                int pick = drawBelow(8);
+                int from = pick < 4 ? o.calls : o.desks;
+                if (from > 0) {
+                    int deed = pick < 4 ? RING : pick == 4 ? AWAY : pick == 7 ? READ : BACK;
+                    act(deed, drawBelow(from));
                 }
-            } else if (office.desks > 0) {
-                int deed = pick == 4 ? AWAY : pick == 7 ? READ : BACK;
-                act(deed, drawBelow(office.desks));
             }
         }
 
@@ -1380,7 +1382,7 @@ public final class DeskRings {
                 return;
             }
             answered |= 1 << call;
-            got += office.gotAt(call, lift.ring);
+            got += office.faded(office.worth[call], lift.ring);
             if (Integer.bitCount(lift.tied) > 1) {
                 clashes++;
             }
@@ -1715,13 +1717,9 @@ public final class DeskRings {
             }
         }
 
-        private void ringEmpty(int desk) {
-            lift.asTold(guess, desk, guess.othersThan(desk), NO_HELP);
-        }
-
         private boolean agrees(Log log) {
             for (int k = 0; k < log.count; k++) {
-                ringEmpty(log.desk[k]);
+                lift.asTold(guess, log.desk[k], guess.othersThan(log.desk[k]), NO_HELP);
                 if (lift.who != log.lifter[k] || (lift.who != NONE && lift.ring != log.ring[k])) {
                     return false;
                 }
@@ -1784,7 +1782,7 @@ public final class DeskRings {
             int most = 0;
             for (int i = 0; i < found; i++) {
                 suppose(sets[i]);
-                ringEmpty(desk);
+                lift.asTold(guess, desk, guess.othersThan(desk), NO_HELP);
                 int at = lift.who == NONE ? MOST_DESKS : lift.who;
                 tally[at]++;
                 most = Math.max(most, tally[at]);
