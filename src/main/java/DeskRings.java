@@ -1314,7 +1314,7 @@ public final class DeskRings {
             for (int call = 0; call < o.calls; call++) {
                 ringEmptyDesk(call, rule, turn);
                 if (rule == 3 && lift.who != NONE) {
-                    turn = lift.who + 1 < o.desks ? lift.who + 1 : 0;
+                    turn = lift.who + 1;
                 }
             }
         }

@@ -10,9 +10,11 @@ public final class RandomTest {
     private static final String[] DEEDS = {"ring ", "away ", "back ", "read "};
 
     public static void main(String[] args) {
+        // One object all along, so that nothing may be left over from an office before.
+        DeskRings x = Checks.office("");
         for (int round = 0; round < 400; round++) {
             int most = round % 10 == 0 ? 8 : 6;
-            DeskRings x = Checks.office(office(R.nextInt(most + 1), R.nextInt(11)));
+            C.due("the office's text", Checks.tell(x, 0, 0, office(R.nextInt(most + 1), R.nextInt(11))), 0);
             Oracle o = new Oracle(x, 0);
             day(x, o);
             lifts(x, o);
@@ -407,7 +409,7 @@ public final class RandomTest {
                 C.due("given " + call, x.given(0, call), gifts[call + 1]);
             }
         }
-        int n = R.nextInt(7);
+        int n = R.nextInt(o.desks > 6 ? 6 : 8);
         int[] duty = o.duty(n, -1);
         C.due("duty", x.duty(0, n, -1), duty == null ? -1 : duty[0]);
         for (int k = 0; k < n; k++) {

@@ -6,6 +6,7 @@ public final class TapeTest {
     public static void main(String[] args) {
         newObject();
         feedAndEnd();
+        cuts();
         textsAndPlaces();
         broken();
         wrongNumbers();
@@ -53,6 +54,26 @@ public final class TapeTest {
         C.due("end(5)", x.end(5), 5);
         C.due("ear7;", x.text(0, 0), 0);
         C.due("ear", x.office(0, 2), 7);
+    }
+
+    /** What stood behind the end is no part of the text, and comes no more. */
+    private static void cut(String text, int n, int fault, int place) {
+        DeskRings x = new DeskRings();
+        Checks.type(x, text);
+        C.due("end(" + n + ") of '" + text + "'", x.end(n), n);
+        C.due("text of it", x.text(0, -1), fault == 0 ? 0 : -1);
+        C.due("fault(0) of it", x.fault(0), fault);
+        C.due("fault(1) of it", x.fault(1), place);
+    }
+
+    private static void cuts() {
+        cut("fade 99;", 6, 1, 6);
+        cut("fade 9;fade 10;", 7, 0, -1);
+        cut("earear 1;", 3, 1, 3);
+        cut("ear 1   ear", 5, 1, 5);
+        cut("ear 1;  ear", 8, 0, -1);
+        cut("ear 1;;", 0, 0, -1);
+        cut("call 0 0 1;" + DESK, 11, 4, 11);
     }
 
     private static void textsAndPlaces() {
@@ -111,6 +132,11 @@ public final class TapeTest {
         C.fault(0, "ear 123;", 1, 4);
         C.fault(0, "ear 4 5;", 1, 6);
         C.fault(0, "ear four;", 1, 4);
+        C.fault(0, "earz 4;", 1, 0);
+        C.fault(0, "bear 1 1 1 1;", 1, 0);
+        C.fault(0, "made 4;", 1, 0);
+        C.fault(1, "bead 4;", 1, 0);
+        C.fault(2, "gifted 1 2 3;", 1, 0);
         C.fault(0, "Ear 4;", 1, 0);
         C.fault(0, "eaR 4;", 1, 0);
         C.fault(0, "ear\t4;", 1, 3);
@@ -233,6 +259,10 @@ public final class TapeTest {
         C.due("fault(0)", x.fault(0), 0);
         C.due("fault(1)", x.fault(1), -1);
         C.due("tape", x.end(1), -1);
+        C.due("image(0)", x.image(0), true);
+        Checks.tell(x, 0, 1, "");
+        C.due("again(0)", x.again(0), true);
+        C.due("office 1", x.office(1, 0), 2);
         C.due("image(1) anew", x.image(1), true);
         Checks.tell(x, 0, 1, "");
         C.due("again(1)", x.again(1), true);
