@@ -609,8 +609,9 @@ public final class DeskRings {
         int nearestGap(int desk, int set) {
             int nearest = LAST_PLACE + 1;
             for (int one = 0; one < desks; one++) {
-                if ((set >> one & 1) != 0) {
-                    nearest = Math.min(nearest, gap(one, desk));
+                int gap = gaps[desk * MOST_DESKS + one];
+                if ((set >> one & 1) != 0 && gap < nearest) {
+                    nearest = gap;
                 }
             }
             return nearest;
@@ -1181,11 +1182,9 @@ public final class DeskRings {
                 return;
             }
             int ears = o.hearers[desk] & there;
-            int nearest = o.nearestGap(desk, ears);
             for (int one = 0; one < o.desks; one++) {
                 if ((ears >> one & 1) != 0) {
-                    boolean isNearest = o.gap(one, desk) == nearest;
-                    offer(o, one, desk, ringOf(o, one, helped[one], isNearest));
+                    offer(o, one, desk, ringOf(o, one, desk, ears, helped[one]));
                 }
             }
         }
@@ -1227,8 +1226,8 @@ public final class DeskRings {
             }
         }
 
-        /** At which ring one who hears it would lift; 0: at none. */
-        private static int ringOf(Office o, int one, int helped, boolean isNearest) {
+        /** At which ring one of those who are there and hear it would lift; 0: at none. */
+        private static int ringOf(Office o, int one, int desk, int ears, int helped) {
             int rings = o.rings[one];
             switch (o.kind[one]) {
                 case PLAIN:
@@ -1238,7 +1237,7 @@ public final class DeskRings {
                 case FAIR:
                     return rings + helped;
                 case NEAR:
-                    return isNearest ? rings : 0;
+                    return o.gap(one, desk) == o.nearestGap(desk, ears) ? rings : 0;
                 default:
                     return 0;
             }
@@ -1584,16 +1583,27 @@ public final class DeskRings {
         }
     }
 
-    /** The game of waiting for each other while an empty desk rings. */
+    /**
+     * The game of waiting for each other while an empty desk rings.
+     *
+     * Its rests come in families: in one, the same one lifts at the same ring, and what each says
+     * is free among some choices, whatever the others choose. No rest is in two of them.
+     */
     private static final class Waiting {
+        private static final int NEVER = 0;
+        private static final int LAST_RING = 3;
+        /** A family for each who lifts and each ring, and one in which nobody lifts. */
+        private static final int MOST_FAMILIES = (MOST_DESKS - 1) * LAST_RING + 1;
+
         private int players;
         private final int[] gaps = new int[MOST_DESKS];
         private final int[] costs = new int[MOST_DESKS];
-        /** What is won by a lift at ring 1, 2, 3; 0 of none. */
-        private final int[] wins = new int[4];
-        private int lifter;
-        private int least;
-        private int leastOfOthers;
+        /** What is won by a lift at ring 1, 2, 3. */
+        private final int[] wins = new int[LAST_RING + 1];
+        private int families;
+        /** What each player may say in each family (bits). */
+        private final int[] choices = new int[MOST_FAMILIES * MOST_DESKS];
+        private boolean lifted;
 
         /** So many at most, the first by numbers, play. */
         void begin(Office o, int desk, int worth, int most) {
@@ -1605,60 +1615,27 @@ public final class DeskRings {
                     players++;
                 }
             }
-            wins[0] = 0;
-            for (int ring = 1; ring <= 3; ring++) {
+            for (int ring = 1; ring <= LAST_RING; ring++) {
                 wins[ring] = o.faded(worth, ring);
             }
+            findFamilies();
         }
 
-        int howMany() {
-            int found = 0;
-            for (int row = 0; row < rows(); row++) {
-                if (isRest(row)) {
-                    found++;
-                }
+        /** Who lifts would rather lift at ring 1, if that wins more, and rather not at all, if it costs more. */
+        private void findFamilies() {
+            families = 0;
+            lifted = false;
+            if (nobodyWouldLift()) {
+                addSilence();
             }
-            return found;
-        }
-
-        int restAt(int k) {
-            int left = k;
-            for (int row = 0; row < rows() && left >= 0; row++) {
-                if (isRest(row)) {
-                    if (left == 0) {
-                        return row;
+            for (int ring = 1; ring <= LAST_RING; ring++) {
+                for (int lifter = 0; lifter < players; lifter++) {
+                    if (wins[ring] == wins[1] && wins[ring] >= costs[lifter]) {
+                        addFamily(lifter, ring);
+                        lifted = true;
                     }
-                    left--;
                 }
             }
-            return NONE;
-        }
-
-        int quickest() {
-            int quick = NONE;
-            for (int row = 0; row < rows() && quick != 1; row++) {
-                if (isRest(row) && lifter != NONE && (quick == NONE || least < quick)) {
-                    quick = least;
-                }
-            }
-            return quick;
-        }
-
-        private int rows() {
-            return 1 << 2 * players;
-        }
-
-        /**
-         * Who does not lift can only lose by a ring that is not before the least one, and a ring
-         * before it is worth to him, less his cost, no more than it would be to the lifter. So it
-         * is enough to ask the lifter, who could lift at ring 1, or leave it to the others.
-         */
-        private boolean isRest(int row) {
-            hearRow(row);
-            if (lifter == NONE) {
-                return nobodyWouldLift();
-            }
-            return wins[1] <= wins[least] && wins[leastOfOthers] <= wins[least] - costs[lifter];
         }
 
         private boolean nobodyWouldLift() {
@@ -1670,23 +1647,101 @@ public final class DeskRings {
             return true;
         }
 
-        private void hearRow(int row) {
-            lifter = NONE;
-            least = 0;
-            leastOfOthers = 0;
+        private void addSilence() {
             for (int i = 0; i < players; i++) {
-                int said = row >> 2 * (players - 1 - i) & 3;
-                if (said == 0) {
-                    continue;
-                }
-                if (lifter == NONE || said < least || (said == least && gaps[i] < gaps[lifter])) {
-                    leastOfOthers = least;
-                    least = said;
-                    lifter = i;
-                } else if (leastOfOthers == 0 || said < leastOfOthers) {
-                    leastOfOthers = said;
+                choices[families * MOST_DESKS + i] = 1 << NEVER;
+            }
+            families++;
+        }
+
+        private void addFamily(int lifter, int ring) {
+            for (int i = 0; i < players; i++) {
+                choices[families * MOST_DESKS + i] = i == lifter ? 1 << ring : choicesBeside(i, lifter, ring);
+            }
+            families++;
+        }
+
+        /** Another may say what neither makes him lift nor lets the lifter win more by leaving it to him. */
+        private int choicesBeside(int other, int lifter, int ring) {
+            int bits = 1 << NEVER;
+            for (int said = ring; said <= LAST_RING; said++) {
+                boolean lifterStays = wins[said] <= wins[ring] - costs[lifter];
+                if (lifterStays && (said > ring || isBehind(other, lifter))) {
+                    bits |= 1 << said;
                 }
             }
+            return bits;
+        }
+
+        /** Whether of two who say the same ring the other one would lift. */
+        private boolean isBehind(int one, int other) {
+            return gaps[one] > gaps[other] || (gaps[one] == gaps[other] && one > other);
+        }
+
+        int howMany() {
+            int sum = 0;
+            for (int family = 0; family < families; family++) {
+                sum += rowsFrom(family, 0);
+            }
+            return sum;
+        }
+
+        /** How many ways a family leaves open to the players from one on. */
+        private int rowsFrom(int family, int from) {
+            int ways = 1;
+            for (int i = from; i < players; i++) {
+                ways *= Integer.bitCount(choices[family * MOST_DESKS + i]);
+            }
+            return ways;
+        }
+
+        int restAt(int k) {
+            if (k < 0 || k >= howMany()) {
+                return NONE;
+            }
+            int left = k;
+            int row = 0;
+            int alive = (1 << families) - 1;
+            for (int i = 0; i < players; i++) {
+                int said = 0;
+                int rows = rowsSaying(alive, i, said);
+                while (said < LAST_RING && left >= rows) {
+                    left -= rows;
+                    said++;
+                    rows = rowsSaying(alive, i, said);
+                }
+                row = row * 4 + said;
+                alive = familiesSaying(alive, i, said);
+            }
+            return row;
+        }
+
+        private int familiesSaying(int alive, int player, int said) {
+            int bits = 0;
+            for (int family = 0; family < families; family++) {
+                boolean may = (choices[family * MOST_DESKS + player] >> said & 1) != 0;
+                if (may && (alive >> family & 1) != 0) {
+                    bits |= 1 << family;
+                }
+            }
+            return bits;
+        }
+
+        /** How many rests of some families have a player say a thing, those before him having spoken. */
+        private int rowsSaying(int alive, int player, int said) {
+            int agreeing = familiesSaying(alive, player, said);
+            int sum = 0;
+            for (int family = 0; family < families; family++) {
+                if ((agreeing >> family & 1) != 0) {
+                    sum += rowsFrom(family, player + 1);
+                }
+            }
+            return sum;
+        }
+
+        /** Who lifts at a later ring in a rest could as well at ring 1, and that is a rest, too. */
+        int quickest() {
+            return lifted ? 1 : NONE;
         }
     }
 
@@ -1894,9 +1949,9 @@ public final class DeskRings {
             }
         }
 
-        private static boolean canTake(Office o, int one, int call, int busy) {
+        private static int takers(Office o, int call, int busy) {
             int desk = o.callDesk[call];
-            return (busy >> one & 1) == 0 && (one == desk || o.hears(one, desk));
+            return (o.hearers[desk] | 1 << desk) & ~busy;
         }
 
         /** What the calls from this one on are worth if one takes it, others being busy already. */
@@ -1906,8 +1961,9 @@ public final class DeskRings {
 
         private int bestGift(Office o, int call, int busy) {
             int best = toGive[(call + 1) * MASKS + busy];
+            int takers = takers(o, call, busy);
             for (int one = 0; one < o.desks; one++) {
-                if (canTake(o, one, call, busy)) {
+                if ((takers >> one & 1) != 0) {
                     best = Math.max(best, giftTo(o, one, call, busy));
                 }
             }
@@ -1915,8 +1971,9 @@ public final class DeskRings {
         }
 
         private int firstTaker(Office o, int call, int busy) {
+            int takers = takers(o, call, busy);
             for (int one = 0; one < o.desks; one++) {
-                if (canTake(o, one, call, busy) && giftTo(o, one, call, busy) == toGive[call * MASKS + busy]) {
+                if ((takers >> one & 1) != 0 && giftTo(o, one, call, busy) == toGive[call * MASKS + busy]) {
                     return one;
                 }
             }
