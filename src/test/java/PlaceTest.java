@@ -95,6 +95,9 @@ public final class PlaceTest {
         C.due("a chain", x.passed(0, 0, 7), 7);
         C.due("passed(0, 8, 0)", x.passed(0, 8, 0), -1);
         C.due("passed(0, 0, 8)", x.passed(0, 0, 8), -1);
+        C.due("passed(0, 0, 32)", x.passed(0, 0, 32), -1);
+        C.due("passed(0, 32, 0)", x.passed(0, 32, 0), -1);
+        C.due("passed(0, 0, -32)", x.passed(0, 0, -32), -1);
         C.due("passed(0, -1, -1)", x.passed(0, -1, -1), -1);
         C.due("passed(1, 0, 0)", x.passed(1, 0, 0), -1);
     }

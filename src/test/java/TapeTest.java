@@ -137,6 +137,9 @@ public final class TapeTest {
         C.fault(0, "made 4;", 1, 0);
         C.fault(1, "bead 4;", 1, 0);
         C.fault(2, "gifted 1 2 3;", 1, 0);
+        C.fault(0, "ear 4!", 1, 5);
+        C.fault(0, "ear 4 123;", 1, 6);
+        C.fault(0, "ear 4 \u00bb;", 1, 6);
         C.fault(0, "Ear 4;", 1, 0);
         C.fault(0, "eaR 4;", 1, 0);
         C.fault(0, "ear\t4;", 1, 3);
@@ -153,6 +156,16 @@ public final class TapeTest {
         C.fault(2, "silent 1 2;", 1, 9);
         C.fault(2, "read 1;", 1, 0);
         C.fault(2, "lifted 1 2 3;silent 4;", 0, -1);
+        String[][] words = {{"plain", "soft", "deaf", "fair", "near", "call", "ear", "machine", "fade"},
+            {"ring", "away", "back", "read"}, {"lifted", "silent"}};
+        for (int sort = 0; sort < 3; sort++) {
+            for (int other = 0; other < 3; other++) {
+                for (String word : words[other]) {
+                    // A word of another sort is broken itself; one of this sort, what follows it.
+                    C.fault(sort, word + " ;", 1, sort == other ? word.length() + 1 : 0);
+                }
+            }
+        }
         // A broken text is so even if a wrong number stands before that.
         C.fault(0, "ear 31;ear 31", 1, 13);
         C.fault(0, DESK.repeat(9) + "x", 1, 126);

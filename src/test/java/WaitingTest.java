@@ -41,8 +41,21 @@ public final class WaitingTest {
         C.due("desk -1", x.rest(0, -1, 9, -1), -1);
         C.due("office 1", x.rest(1, 0, 9, -1), -1);
         C.due("k -3", x.rest(0, 0, 9, -3), -1);
-        DeskRings full = Checks.office("plain 5 1 1 1;".repeat(8));
-        C.due("seven play", full.rest(0, 7, 99, -1), new Oracle(full, 0).rests(7, 99, 8).size());
+        // Seven play: each may lift; each may lift at each ring, or nobody, since it is just worth its cost.
+        sevenPlay(Checks.office("plain 5 1 1 1;".repeat(8)), 99);
+        sevenPlay(Checks.office("fade 0;" + "plain 5 1 5 1;".repeat(8)), 5);
+        sevenPlay(Checks.office("fade 0;" + "plain 5 1 0 1;".repeat(8)), 5);
+    }
+
+    private static void sevenPlay(DeskRings x, int worth) {
+        Oracle o = new Oracle(x, 0);
+        java.util.List<Integer> rows = o.rests(7, worth, 8);
+        C.due("how many of seven", x.rest(0, 7, worth, -1), rows.size());
+        for (int k = 0; k < rows.size(); k += 1 + k / 20) {
+            C.due("rest " + k + " of seven", x.rest(0, 7, worth, k), rows.get(k));
+        }
+        C.due("rest beyond", x.rest(0, 7, worth, rows.size()), -1);
+        C.due("quick of seven", x.rest(0, 7, worth, -2), o.quick(7, worth, 8));
     }
 
     private static void fewer() {
