@@ -73,14 +73,16 @@ public final class DeskRings {
     }
 
     public int text(int sort, int at) {
+        // The tape is taken even where no text is read from it.
+        int length = told.length;
+        told.length = 0;
         told.fault = 0;
         told.faultPlace = NONE;
         int slot = told.slotFor(sort, at);
         if (slot == NONE) {
             return NO_SUCH;
         }
-        reader.readText(sort, told.tape, told.length);
-        told.length = 0;
+        reader.readText(sort, told.tape, length);
         told.fault = reader.fault;
         told.faultPlace = reader.faultPlace;
         if (reader.fault != 0) {

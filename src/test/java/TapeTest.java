@@ -7,6 +7,8 @@ public final class TapeTest {
         newObject();
         feedAndEnd();
         cuts();
+        refusedTexts();
+        refusedTextOfFullTape();
         textsAndPlaces();
         broken();
         wrongNumbers();
@@ -76,20 +78,65 @@ public final class TapeTest {
         cut("call 0 0 1;" + DESK, 11, 4, 11);
     }
 
+    /** A text that can't have a place takes the tape all the same, and reads nothing of it. */
+    private static void refused(DeskRings x, int sort, int at) {
+        String call = "text(" + sort + ", " + at + ")";
+        int[] counts = {x.count(0), x.count(1), x.count(2)};
+        Checks.tell(x, 0, 0, "oh");
+        Checks.type(x, "ear 7;");
+        C.due(call, x.text(sort, at), -2);
+        C.due("the tape has no byte behind " + call, x.end(1), -1);
+        C.due("the tape is empty behind " + call, x.feed(0, 0, 0, 0, 0), 20);
+        C.due("an empty tape behind " + call, x.end(0), 0);
+        C.due("fault 0 by " + call, x.fault(0), 0);
+        C.due("no place by " + call, x.fault(1), -1);
+        for (int k = 0; k < 3; k++) {
+            C.due("count(" + k + ") behind " + call, x.count(k), counts[k]);
+        }
+    }
+
+    private static void refusedTexts() {
+        int[] sorts = {-2, -1, 3, 4, Integer.MIN_VALUE, Integer.MAX_VALUE};
+        int[] nowhere = {-2, 2, 3, Integer.MIN_VALUE, Integer.MAX_VALUE};
+        for (int sort = 0; sort < 3; sort++) {
+            DeskRings x = new DeskRings();
+            for (int told = 0; told < 2; told++) {
+                for (int at = told; at < 2; at++) {
+                    refused(x, sort, at);
+                }
+                for (int at : nowhere) {
+                    refused(x, sort, at);
+                }
+                C.due("a further one of " + sort, Checks.tell(x, sort, -1, ""), told);
+            }
+            refused(x, sort, -1);
+            refused(x, sort, 2);
+            for (int other : sorts) {
+                refused(x, other, -1);
+                refused(x, other, 0);
+            }
+        }
+    }
+
+    private static void refusedTextOfFullTape() {
+        DeskRings x = new DeskRings();
+        for (int k = 1; k <= 30; k++) {
+            x.feed(k, k, k, k, k);
+        }
+        x.image(0);
+        C.due("a full tape", x.feed(0, 0, 0, 0, 0), -1);
+        C.due("text(0, 0) of a full tape", x.text(0, 0), -2);
+        C.due("the tape takes again", x.feed(0, 0, 0, 0, 0), 20);
+        C.due("the image has the tape", x.again(0), true);
+        C.due("it is full again", x.end(600), 600);
+    }
+
     private static void textsAndPlaces() {
         DeskRings x = new DeskRings();
         Checks.type(x, "oh");
-        C.due("text(0, 0) without one", x.text(0, 0), -2);
-        C.due("text(3, -1)", x.text(3, -1), -2);
-        C.due("text(-1, -1)", x.text(-1, -1), -2);
-        C.due("text(0, -2)", x.text(0, -2), -2);
-        C.due("no text was read", x.end(2), 2);
         C.due("a text with a fault", x.text(0, -1), -1);
         C.due("its fault", x.fault(0), 1);
         C.due("its place", x.fault(1), 0);
-        C.due("text(0, 1)", x.text(0, 1), -2);
-        C.due("fault 0 by -2", x.fault(0), 0);
-        C.due("no place by -2", x.fault(1), -1);
         String[] first = {"ear 1;", "away 1;", "silent 1;"};
         String[] second = {"ear 2;", "back 2;away 3;", "silent 2;silent 3;"};
         for (int sort = 0; sort < 3; sort++) {
