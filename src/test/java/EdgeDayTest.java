@@ -15,6 +15,7 @@ public final class EdgeDayTest {
         term2FairOnesHelp();
         term2NearOnes();
         term2Clashes();
+        term2PatienceOfEachCall();
         term2CallsRingAgain();
         term2Slips();
         promise8EmptyAndFullDays();
@@ -161,6 +162,16 @@ public final class EdgeDayTest {
         clash("plain 10 1 0 0;plain 10 1 0 0;", "ring 0;", 1, 0, 0);
         // Each counts.
         clash("plain 11 5 0 0;plain 11 5 0 0;", "away 0;ring 0;ring 1;ring 2;", 3, 2, 1);
+    }
+
+    /** Each call has a patience of its own, the last one, too. */
+    private static void term2PatienceOfEachCall() {
+        DeskRings x = Checks.officeAndDay("plain 0 1 0 0;plain 0 9 1 0;machine 5;call 0 9 4;call 0 9 5;call 0 9 4;call 0 9 6;",
+                "away 0;ring 0;ring 1;ring 2;ring 3;");
+        state("gone", x, 2, 0, 1, 0, 0, 0, 0);
+        state("taken", x, 3, 0, 1, 1, 0, 0, 0);
+        state("gone again", x, 4, 0, 2, 1, 0, 0, 0);
+        state("taken again", x, 5, 0, 2, 2, 0, 0, 0);
     }
 
     private static void term2CallsRingAgain() {

@@ -99,6 +99,13 @@ public final class EdgeLiftTest {
         C.due("the soft one", x.who(0, 0, 2, true), 5);
         C.due("the fair one", x.who(0, 0, 4, true), 5);
         C.due("tied", x.tied(0, 0), 6);
+        // Each of eight: neither sooner nor later than told.
+        for (int one = 0; one < 8; one++) {
+            int desk = one == 0 ? 1 : 0;
+            for (String kind : new String[] {"soft", "fair"}) {
+                who("deaf 5 5 0 0;".repeat(one) + kind + " 5 5 0 0;" + "deaf 5 5 0 0;".repeat(7 - one), desk, 1 << one, one, 5);
+            }
+        }
     }
 
     private static void promise10BitsOfThoseThere() {
@@ -228,6 +235,13 @@ public final class EdgeLiftTest {
             odds(x, 1, want[i][0], want[i][1]);
             mean(x, 0, 99 * want[i][0], want[i][1]);
             mean(x, 1, want[i][0], want[i][1]);
+        }
+        // Nobody has helped yet, however many calls there are.
+        for (String kind : new String[] {"soft", "fair"}) {
+            DeskRings x = Checks.office("plain 0 1 0 0;" + kind + " 0 5 0 10;call 0 9 5;call 1 9 9;call 1 9 9;call 0 9 4;");
+            odds(x, 0, 1, 1);
+            mean(x, 0, 5, 1);
+            odds(x, 3, 0, 1);
         }
         DeskRings full = Checks.office("plain 0 1 0 10;".repeat(8) + "call 3 99 20;".repeat(10));
         odds(full, 9, 1, 1);

@@ -106,10 +106,14 @@ public final class EdgeLogTest {
         log("plain 0 1 0 0;plain 20 1 0 0;plain 21 1 0 0;", "", 8, 0, 0, 1, 0, 0);
         log("plain 20 1 0 0;plain 0 1 0 0;plain 21 1 0 0;", "", 8, 0, 0, 0, 0, 0);
         log("plain 0 1 0 0;plain 12 1 0 0;plain 24 1 0 0;", "", 8, 0, 0, 0, 0, 0);
+        // Each desk halves the sets, one more than the others into three parts: of several the least.
+        log("plain 0 1 0 0;plain 10 1 0 0;plain 20 1 0 0;", "", 8, 0, 0, 0, 0, 0);
         // 1 is deaf for sure: nobody lifts desk 0; whether 0 is deaf, desk 1 tells.
         log("plain 0 1 0 0;plain 1 1 0 0;plain 20 1 0 0;plain 21 1 0 0;", "silent 0;", 8, 2, 0, 1, 1, 2);
         // 2, who is nearer, is deaf for sure: desks 0, 2 and 3 tell whether 1 is, desk 1 tells nothing.
         log("plain 0 1 0 0;plain 10 1 0 0;plain 10 1 0 0;plain 20 1 0 0;", "lifted 1 0 1;", 4, 4, 1, 0, 1, 4);
+        // 1 and 2 are deaf, 0 is not: he lifts desk 1 in both sets, desk 2 unless 3, who may be deaf, is quicker.
+        log("plain 10 2 0 0;plain 0 1 0 0;plain 15 1 0 0;plain 25 1 0 0;", "silent 0;lifted 1 0 2;", 2, 6, 1, 2, 2, 6);
         log("plain 10 1 0 0;plain 0 1 0 0;plain 20 1 0 0;", "silent 1;silent 2;", 4, 1, 0, 0, 1, 1);
         log("plain 10 1 0 0;plain 0 1 0 0;plain 20 1 0 0;", "lifted 1 0 1;", 4, 0, 1, 0, 0, 0);
     }

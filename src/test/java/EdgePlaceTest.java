@@ -95,6 +95,7 @@ public final class EdgePlaceTest {
         rooms(at(0, 1, 2, 20, 21) + "ear 1;", 2, 3);
         rooms(at(0, 1, 20, 21, 22) + "ear 1;", 2, 3);
         rooms(at(0, 20, 1, 21, 30, 29) + "ear 1;", 3, 2);
+        rooms(at(0, 1, 10, 20, 21, 22) + "ear 1;", 3, 3);
         DeskRings x = Checks.office(at(5));
         for (int n : NOT_THERE) {
             for (boolean largest : BOTH) {

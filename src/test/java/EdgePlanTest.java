@@ -55,6 +55,8 @@ public final class EdgePlanTest {
         lunch("plain 0 3 0 0;plain 0 3 0 0;call 0 10 9;call 1 20 9;", 1, 28, 1);
         lunch("plain 0 1 0 0;plain 0 1 0 0;call 0 10 9;call 1 20 9;", 1, 30, 1);
         lunch("plain 0 1 0 0;plain 0 3 0 0;call 0 10 9;call 1 20 9;", 1, 30, 2);
+        lunch(DESK.repeat(8) + "call 3 99 1;".repeat(10), 0, 990, 0);
+        lunch(DESK.repeat(8) + "call 3 99 1;".repeat(10), 7, 990, 127);
     }
 
     private static void promise19OfSeveralTheLeast() {
@@ -72,6 +74,8 @@ public final class EdgePlanTest {
         // The deaf one at desk 0 lifts no other desk, so that he is the one who goes.
         lunch("deaf 0 1 0 0;soft 10 4 0 0;call 1 99 1;call 0 20 9;call 0 20 9;call 0 20 9;", 1, 99 + 51, 1);
         lunch("deaf 0 1 0 0;fair 10 4 0 0;call 1 99 1;call 0 20 4;call 0 20 4;call 0 20 4;", 1, 99 + 51, 1);
+        lunch("deaf 0 1 0 0;soft 10 4 0 0;call 0 20 9;call 1 99 1;call 1 99 1;call 1 99 1;", 1, 3 * 99 + 17, 1);
+        lunch("deaf 0 1 0 0;fair 10 4 0 0;call 0 20 4;call 1 99 1;call 1 99 1;call 1 99 1;", 1, 3 * 99 + 17, 1);
         lunch("deaf 0 1 0 0;fair 11 4 0 0;call 1 99 1;call 0 20 4;call 0 20 4;call 0 20 4;", 1, 99, 1);
         for (int patience = 1; patience <= 20; patience++) {
             for (int machine = 0; machine <= 20; machine++) {
@@ -145,7 +149,13 @@ public final class EdgePlanTest {
         rule("fade 0;plain 10 1 0 0;plain 12 1 2 0;deaf 9 1 3 0;plain 11 1 4 0;call 0 5 9;", 2, 5, 3, 1, 0);
         rule("fade 0;plain 10 1 0 0;plain 12 1 2 0;plain 9 1 3 0;deaf 11 1 4 0;call 0 5 9;", 2, 5, 3, 1, 0);
         rule("fade 0;plain 10 1 0 0;plain 11 1 2 0;deaf 10 1 3 0;call 0 5 9;", 2, 5, 3, 1, 0);
-        // Rule 0: as told.
+        // The one at desk 0 hears, too.
+        for (int rule = 0; rule < 4; rule++) {
+            rule("fade 0;plain 11 3 7 0;plain 10 1 0 0;call 1 5 9;", rule, 5, 7, 1, 0);
+            rule("fade 0;plain 11 3 7 0;plain 10 1 0 0;plain 9 3 2 0;call 1 5 9;", rule, 5, 7, 1, 0);
+        }
+        // Rule 0: as told, at whichever desk it rings.
+        rule("fade 1;plain 11 3 7 0;plain 10 1 0 0;call 1 5 9;", 0, 3, 7, 1, 0);
         rule("fade 0;plain 10 1 0 0;plain 12 2 2 0;plain 9 3 3 0;call 0 5 9;", 0, 5, 2, 1, 0);
     }
 
@@ -161,6 +171,14 @@ public final class EdgePlanTest {
         rule(three + "call 0 9 9;call 0 9 9;call 1 9 9;", 3, 27, 13, 1, 0);
         // 0 of desk 2, then 2 of desk 1, since he who is behind 0 is away.
         rule(three + "call 2 9 9;call 1 9 9;", 3, 18, 11, 1, 0);
+        // It is his turn, however far off he is.
+        rule("fade 0;plain 10 1 0 0;plain 12 1 2 0;plain 9 1 3 0;call 0 5 9;", 3, 5, 2, 1, 0);
+        rule("fade 0;plain 10 1 0 0;plain 12 1 2 0;plain 9 1 3 0;call 0 5 9;call 0 5 9;call 0 5 9;", 3, 15, 7, 2, 0);
+        // 1, 2, then of desk 3: round to 0; of desk 0: round beyond him to 1.
+        String four = "plain 5 1 1 0;plain 5 1 2 0;plain 5 1 4 0;plain 5 1 8 0;";
+        rule(four + "call 0 9 9;call 0 9 9;call 3 9 9;", 3, 27, 2 + 4 + 1, 1, 0);
+        rule(four + "call 0 9 9;call 0 9 9;call 0 9 9;call 0 9 9;", 3, 36, 2 + 4 + 8 + 2, 2, 0);
+        rule(four + "call 0 9 9;call 0 9 9;call 0 9 9;call 1 9 9;", 3, 36, 2 + 4 + 8 + 1, 1, 0);
         // One alone hears it, again and again.
         rule("plain 5 1 1 0;plain 5 1 2 0;" + "call 0 9 9;".repeat(10), 3, 90, 20, 10, 0);
         // Nobody hears desk 2: the turn stays. Else it would be 3's.
@@ -311,11 +329,29 @@ public final class EdgePlanTest {
         order(fair, 3, 27, 0, 1, 2);
         order(fair, 4, 36, 0, 3, 2, 1);
         order(fair, 5, 45, 4, 3, 2, 1, 0);
+        for (int n = 1; n <= 5; n++) {
+            for (int[] row : Oracle.orders(n)) {
+                onlyOrder(row);
+            }
+        }
         // Only one is lifted in time, whichever is first: the dearest.
         order("fade 0;plain 0 1 0 0;fair 0 3 0 0;call 0 5 3;call 0 7 3;call 0 7 3;", 3, 7, 1, 0, 2);
         // The soft one lifts sooner each time.
         order("fade 0;plain 0 1 0 0;soft 0 3 0 0;call 0 5 1;call 0 7 2;call 0 9 3;", 3, 21, 2, 1, 0);
         order("fade 0;plain 0 1 0 0;soft 0 3 0 0;call 0 5 1;call 0 7 2;call 0 9 3;", 2, 0, 0, 1);
+    }
+
+    /** The fair one lifts the k-th call at ring k; each call waits just so long if they ring in this order. */
+    private static void onlyOrder(int... row) {
+        int[] patience = new int[row.length];
+        for (int k = 0; k < row.length; k++) {
+            patience[row[k]] = k + 1;
+        }
+        StringBuilder office = new StringBuilder("fade 0;plain 0 1 0 0;fair 0 1 0 0;");
+        for (int each : patience) {
+            office.append("call 0 9 ").append(each).append(';');
+        }
+        order(office.toString(), row.length, 9 * row.length, row);
     }
 
     private static void promise28NoSuch() {
@@ -375,6 +411,8 @@ public final class EdgePlanTest {
         duty("plain 0 1 9 0;".repeat(6) + "plain 0 1 0 0;plain 0 1 1 0;", 3, 1, 6, 7, 6);
         duty("plain 0 1 9 0;".repeat(6) + "plain 0 1 0 0;plain 0 1 1 0;", 2, 1, 6, 7);
         duty("plain 0 1 1 0;plain 0 1 0 0;plain 0 1 0 0;", 1, 0, 1);
+        duty("plain 0 1 9 0;plain 0 1 5 0;plain 0 1 1 0;", 3, 7, 2, 1, 2);
+        duty("plain 0 1 1 0;plain 0 1 5 0;plain 0 1 9 0;", 3, 7, 0, 1, 0);
     }
 
     private static void promise31NoSuch() {
@@ -423,6 +461,8 @@ public final class EdgePlanTest {
         // A loss by each: of several the least.
         best("fade 0;plain 0 1 0 0;plain 0 1 20 0;call 0 0 9;", 0);
         best("fade 1;plain 0 1 0 0;plain 0 2 20 0;call 0 9 9;", 3);
+        // There is no fifth rule by which the first of all would lift again and again.
+        best("fade 0;plain 0 12 0 0;plain 0 12 0 0;plain 0 12 20 0;call 0 9 1;call 0 50 1;", 3);
         DeskRings x = Checks.office(two);
         for (int office : NOT_THERE) {
             C.due("best(" + office + ")", x.best(office), -1);
