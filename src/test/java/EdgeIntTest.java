@@ -72,6 +72,7 @@ public final class EdgeIntTest {
         all.add((long) x.office(1, 3));
         for (int k = 0; k < 3; k++) {
             all.add(x.again(k) ? 1L : 0L);
+            all.add((long) x.count(2));
             for (int n = 0; n < 2; n++) {
                 all.add((long) x.count(n));
                 all.add((long) x.office(n, 0));

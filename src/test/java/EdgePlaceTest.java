@@ -127,6 +127,10 @@ public final class EdgePlaceTest {
         seat(at(4, 15, 0) + "ear 15;", 0, 16, 1);
         seat(at(4, 14, 0) + "ear 15;", 0, 30, 0);
         seat(at(4, 0) + "ear 0;", 0, 1, 0);
+        // Between two who hear it at both ends.
+        seat(at(4, 0, 30), 0, 11, 0);
+        seat(at(4, 0, 30) + "ear 14;", 0, 15, 0);
+        seat(at(4, 0, 30) + "ear 15;", 0, 0, 1);
         seat(at(4, 1) + "ear 0;", 0, 0, 0);
         seat(at(9, 9, 9, 9, 9, 9, 9, 9) + "ear 30;", 7, 0, 7);
         seat(at(0, 0, 0, 0, 30, 30, 30, 9) + "ear 15;", 7, 16, 3);

@@ -28,6 +28,7 @@ public final class EdgeReuseTest {
             backwards(first);
         }
         afterARefusal();
+        upToTheLastCall();
         C.finish();
     }
 
@@ -166,6 +167,18 @@ public final class EdgeReuseTest {
             int asked = what;
             q.add(x -> x.after(o, 0, asked));
         }
+    }
+
+    /** "at most 512 calls after it has been made": the last of them is as good as the first. */
+    private static void upToTheLastCall() {
+        DeskRings x = new DeskRings();
+        C.due("the first call", x.text(0, -1), 0);
+        for (int call = 2; call <= 509; call++) {
+            C.due("call " + call, call % 2 == 0 ? x.drawn(0, call, 60, 4) : x.text(0, 0), 0);
+        }
+        C.due("call 510", x.feed(0x65617237, 0x3b202020, 0x20202020, 0x20202020, 0x20202020), 20);
+        C.due("call 511", x.text(0, 0), 0);
+        C.due("call 512", x.office(0, 2), 7);
     }
 
     /** An answer that is none is none, though there was one just before. */

@@ -389,6 +389,7 @@ public final class EdgeTapeTest {
         C.due("an image of nothing", x.image(1), true);
         Checks.tell(x, 0, -1, "");
         Checks.tell(x, 1, -1, "");
+        Checks.tell(x, 2, -1, "");
         Checks.tell(x, 2, -1, "oh");
         feedAll(x, BLANK);
         C.due("nothing again", x.again(1), true);
@@ -397,6 +398,7 @@ public final class EdgeTapeTest {
         }
         C.due("no office", x.office(0, 0), -1);
         C.due("no day", x.deed(0, -1, 0), -2);
+        C.due("no log", x.fact(0, -1, 0), -2);
         latest(x, 0, -1);
         C.due("an empty tape", x.end(1), -1);
     }
