@@ -19,6 +19,14 @@ final class Checks {
         due(call, got ? 1 : 0, want ? 1 : 0);
     }
 
+    void due(String what, String got, String want) {
+        made++;
+        if (!got.equals(want)) {
+            wrong++;
+            System.out.println(what + "; it was:\n" + got + "due is:\n" + want);
+        }
+    }
+
     /** Puts a text on the tape, which must be empty, byte by byte. */
     static void type(DeskRings x, String text) {
         byte[] bytes = text.getBytes(StandardCharsets.ISO_8859_1);
